@@ -1043,47 +1043,22 @@ public final class CourtHand {
         final int[] openPlace = new int[OPEN_MOST];
         final int[] openMade = new int[OPEN_MOST];
         int length;
+        private int made;
+        private int open;
 
         /** How many letters, or a fault: then the order stays. */
         int readOrder(Tape tape, int n) {
-            int made = 0;
-            int open = 0;
+            made = 0;
+            open = 0;
             int at = 0;
             for (int turn = 0; turn < n && at < n; turn++) {
                 int sign = tape.byteAt(at);
-                if (sign == '(') {
-                    if (open >= OPEN_MOST) {
-                        return fault(FAULT_DEEP, at);
-                    }
-                    openPlace[open] = at;
-                    openMade[open] = made;
-                    open++;
-                    at++;
-                    continue;
+                int times = sign == '(' ? 1 : timesAt(tape, n, at + 1);
+                int wrong = sign == '(' ? openRound(at) : sign == ')' ? shutRound(at, times) : putLetter(sign, at, times);
+                if (wrong != 0) {
+                    return wrong;
                 }
-                boolean isLetter = sign >= 'A' && sign <= 'H';
-                boolean shuts = sign == ')' && open > 0 && made > openMade[open - 1];
-                if (!isLetter && !shuts) {
-                    return fault(FAULT_SIGN, at);
-                }
-                if (shuts) {
-                    open--;
-                }
-                int place = shuts ? openPlace[open] : at;
-                int since = shuts ? openMade[open] : made;
-                int span = shuts ? made - since : 1;
-                int times = timesAt(tape, n, at + 1);
                 at += times > 1 ? 2 : 1;
-                made = since + span * times;
-                if (made > ORDER_LETTERS) {
-                    return fault(FAULT_LONG, place);
-                }
-                if (isLetter) {
-                    draft[since] = sign - 'A';
-                }
-                for (int i = since + span; i < made; i++) {
-                    draft[i] = draft[i - span];
-                }
             }
             if (open > 0) {
                 return fault(FAULT_SIGN, n);
@@ -1091,6 +1066,50 @@ public final class CourtHand {
             System.arraycopy(draft, 0, letters, 0, made);
             length = made;
             return made;
+        }
+
+        private int openRound(int place) {
+            if (open >= OPEN_MOST) {
+                return fault(FAULT_DEEP, place);
+            }
+            openPlace[open] = place;
+            openMade[open] = made;
+            open++;
+            return 0;
+        }
+
+        private int shutRound(int place, int times) {
+            if (open < 1 || made <= openMade[open - 1]) {
+                return fault(FAULT_SIGN, place);
+            }
+            open--;
+            return repeat(openPlace[open], openMade[open], times);
+        }
+
+        private int putLetter(int sign, int place, int times) {
+            if (sign < 'A' || sign > 'H') {
+                return fault(FAULT_SIGN, place);
+            }
+            if (made >= ORDER_LETTERS) {
+                return fault(FAULT_LONG, place);
+            }
+            draft[made] = sign - 'A';
+            made++;
+            return repeat(place, made - 1, times);
+        }
+
+        /** Writes what was made since then so many times in all; a fault belongs to the place where it began. */
+        private int repeat(int place, int since, int times) {
+            int span = made - since;
+            int total = since + span * times;
+            if (total > ORDER_LETTERS) {
+                return fault(FAULT_LONG, place);
+            }
+            for (int i = made; i < total; i++) {
+                draft[i] = draft[i - span];
+            }
+            made = total;
+            return 0;
         }
 
         private static int timesAt(Tape tape, int n, int at) {

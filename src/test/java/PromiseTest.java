@@ -195,6 +195,16 @@ public final class PromiseTest {
       T.due("law " + row[0], law(x, (String) row[0]), (Integer) row[1]);
     }
     T.due("the law before stays", x.count(4), 4);
+    String[] cut = {"x(1=1)", "p1(1=1)", "x(1=1);x(1=1)"};
+    for (String text : cut) {
+      for (int n = 1; n < text.length(); n++) {
+        Checks.type(x, text);
+        boolean whole = n == 6 && text.charAt(0) == 'x';
+        T.due(n + " bytes of " + text, x.law(n), whole ? 1 : -1000 - n);
+      }
+    }
+    Checks.type(x, "p123456(1=1)");
+    T.due("cut in a number", x.law(6), -1006);
     T.due("16 rules", law(x, times("x(1=1);", 15) + "x(1=1)"), 16);
     T.due("16 rules stand", x.count(4), 16);
     T.due("a 17th", law(x, times("x(1=1);", 16) + "p("), -4112);
@@ -284,6 +294,8 @@ public final class PromiseTest {
     for (int i = 0; i < due.length(); i++) {
       T.due("round letter " + i, x.count(100 + i), due.charAt(i) - 'A');
     }
+    x.feed(0x41320000, 0, 0, 0, 0);
+    T.due("what is behind does not count", x.order(1), 1);
     T.due("60 bytes", order(x, times("B", 60)), 60);
     T.due("last of 60", x.count(159), 1);
   }
@@ -316,6 +328,17 @@ public final class PromiseTest {
     for (Object[] row : bad) {
       T.due("blots " + row[0], blots(x, (String) row[0]), (Integer) row[1]);
     }
+    int[] cutDue = {-1001, -1002, 1, -1004, -1005, -1006, 2};
+    x.keep();
+    for (int n = 1; n <= 7; n++) {
+      Checks.type(x, "0A!;0B~b");
+      T.due(n + " bytes of blots", x.blots(n), cutDue[n - 1]);
+    }
+    T.due("dot b is cut off", x.formOf(0, 1), ALL);
+    Checks.type(x, "0Aaa");
+    x.blots(3);
+    T.due("the second a is cut off", x.formOf(0, 0), 1);
+    x.undo();
     T.due("nothing is done with a fault", x.formOf(0, 0), 16 | 1 << 24);
     T.due("20 lines", blots(x, times("0A~;", 19) + "0A~"), 20);
     T.due("back again", x.formOf(0, 0), 16 | 1 << 24);
@@ -372,6 +395,13 @@ public final class PromiseTest {
     T.due("ink 1 and 2", x.courtierIs(0, 1), 2);
     T.due("ink for no more", x.moons(60), 0);
     T.due("60 moons more", x.count(0), 68);
+    x.courtier(0, 50, 5);
+    x.seed(1);
+    T.due("just enough ink", x.tried(1, 2), 5);
+    x.form(0, 0, 1 << 15);
+    law(x, "w10(1=1)");
+    x.moons(1);
+    T.due("a black dot turns white", x.formOf(0, 0), 0);
     mendThenSpoil();
   }
 
@@ -508,7 +538,15 @@ public final class PromiseTest {
     T.due("nothing is changed: moon", x.count(0), 0);
     T.due("nothing is changed: form", x.formOf(9, 1), 1);
     T.due("nothing is changed: ink", x.courtierIs(0, 1), 100);
+    law(x, "p10(c=9&k=1);i10(1=1)");
+    x.form(0, 0, 7);
+    x.form(9, 1, POST ^ 3);
+    T.due("rank in the end", x.tried(1, 29), 0);
+    x.form(0, 0, 15);
+    x.form(9, 1, 1);
     law(x, "w10(1=1);i99(1=1)");
+    T.due("spoiled in one", x.tried(1, 1), 6);
+    T.due("ink in one", x.tried(1, 2), 31);
     int spoiled = x.tried(2, 1);
     int faults = x.tried(2, 10);
     int first = x.tried(2, 3);
@@ -545,6 +583,14 @@ public final class PromiseTest {
     T.due("nobody", x.courtierIs(3, 0), -1);
     T.due("10", x.courtierIs(10, 0), -1);
     T.due("-1", x.courtierIs(-1, 0), -1);
+    x.form(2, 1, POST);
+    T.due("A as B", x.courtierIs(2, 4), 2);
+    x.form(2, 0, 1);
+    T.due("A can't be read", x.courtierIs(2, 5), 1);
+    x.form(2, 0, BAR);
+    T.due("all as they are meant", x.courtierIs(2, 4), 3);
+    x.form(2, 0, POST);
+    x.form(2, 1, 1);
     x.model(0, POST);
     T.due("faults follow the model", x.courtierIs(2, 2), 4);
   }
@@ -705,6 +751,11 @@ public final class PromiseTest {
     T.due("A and C", whose(x, 5, 1, BAR, RING ^ 7), 3);
     T.due("no such grid", whose(x, 3, 0, BAR, ALL + 1), -3);
     T.due("no such grid below 0", whose(x, 3, 0, -1, 0), -3);
+    x.courtier(0, 0, 0);
+    T.due("0 of like ones", whose(x, 3, 0, BAR, POST), 0);
+    x.form(0, 0, 0);
+    T.due("0 is far", whose(x, 3, 0, BAR, POST), 7);
+    T.due("the next is not the last", whose(x, 3, 2, BAR, POST), 1);
     T.due("only told grids count", whose(x, 1, 0, BAR, -1), 7);
     x.feed(0, 0, 0, 0, 0);
     T.due("letters 0", x.whose(0, 0), -1);
@@ -721,6 +772,8 @@ public final class PromiseTest {
     T.due("not so many", x.whose(255, 0), -1);
     T.due("it stays", x.count(5), 20);
     x.feed(0, 0, 0, 0, 0);
+    x.courtier(0, 0, 0);
+    x.form(0, 7, ALL);
     T.due("all eight", x.whose(255, 1), Integer.bitCount(15) + 5 + 8 + 2 + 1 + 2 + 2 + 3);
   }
 
@@ -755,7 +808,20 @@ public final class PromiseTest {
     T.due("what 10", x.alike(5, 10), -1);
     T.due("what 101", x.alike(5, 101), -1);
     T.due("what -1", x.alike(5, -1), -1);
+    x.courtier(1, 0, 0);
+    x.form(1, 0, 0);
+    T.due("0 is near 1", x.alike(2, 1), 3);
+    T.due("1 is near 0", x.alike(2, 0), 3);
+    T.due("1 and 0 and two more", x.alike(2, 100), 3);
+    x.courtier(1, 0, 0);
+    x.form(1, 1, POST | 510);
+    T.due("9 to 1, 0 by 4", x.alike(5, 9), 1 + 2 + 16 + 512);
     x.form(9, 1, POST | 6);
+    x.form(1, 1, 0);
+    x.form(1, 0, ALL);
+    T.due("two alike, 1 far off", x.alike(0, 100), 3);
+    x.form(1, 0, 3);
+    x.form(1, 1, POST);
     T.due("two alike", x.alike(0, 100), 2);
     T.due("which", x.alike(0, 9), 16 + 512);
   }
@@ -785,6 +851,18 @@ public final class PromiseTest {
     x.courtier(4, 60, 9999);
     x.form(4, 0, BAR >> 3);
     T.due("the older in three", x.rises(3, 1), 3);
+    T.due("rises in sixty", x.rises(60, 0), 4);
+    x.courtier(0, 70, 9999);
+    x.form(0, 0, 0);
+    law(x, "p10(c=0)");
+    T.due("0 rises in five", x.rises(5, 0), 0);
+    T.due("0 rises by four", x.rises(5, 1), 4);
+    x.form(0, 0, BAR);
+    T.due("first already", x.rises(5, 1), 0);
+    x.form(0, 0, 0);
+    T.due("ranks as they are now", x.rises(5, 1), 4);
+    x.courtier(0, 0, 0);
+    x.form(0, 0, 0);
     T.due("rises 0", x.rises(0, 0), -1);
     T.due("rises 61", x.rises(61, 0), -1);
     T.due("rises what 2", x.rises(1, 2), -1);
@@ -822,6 +900,15 @@ public final class PromiseTest {
     T.due("its other", x.clear(1, 1), 6);
     x.form(1, 7, 0);
     T.due("the lowest other", x.clear(1, 1), 6);
+    for (int k = 0; k < 8; k++) {
+      x.model(k, (1 << 2 * k) - 1);
+      x.form(1, k, (1 << 2 * k) - 1);
+    }
+    T.due("neighbours: first", x.clear(1, 0), 0);
+    T.due("neighbours: other", x.clear(1, 1), 1);
+    T.due("neighbours: how far", x.clear(1, 2), 2);
+    x.form(1, 6, x.modelOf(7));
+    T.due("the last two", x.clear(1, 0), 6);
     T.due("what 3", x.clear(1, 3), -1);
     T.due("what -1", x.clear(1, -1), -1);
     T.due("nobody", x.clear(0, 0), -1);
@@ -858,6 +945,12 @@ public final class PromiseTest {
     shape(Checks.grid("..#..", ".....", "#.#.#", ".....", "..#.."), 0, 5, 0, 4);
     shape(Checks.grid("..#..", "..#..", "#####", "..#..", "....."), 0, 1, 1, 1);
     shape(Checks.grid(".....", "...#.", "..###", "...#.", "##..."), 0, 2, 1, 2);
+    shape(ALL ^ 1 << 2, 0, 1, 1, 4);
+    shape(ALL ^ 1 << 10, 0, 1, 1, 4);
+    shape(ALL ^ 1 << 14, 0, 1, 1, 4);
+    shape(ALL ^ 1 << 22, 0, 1, 1, 4);
+    shape(ALL ^ 1 << 12, 1, 1, 1, 7);
+    shape(Checks.grid(".....", ".###.", ".#.#.", ".###.", "....."), 1, 1, 0, 0);
     CourtHand x = new CourtHand();
     int flag = Checks.grid("####.", "#....", "###..", "#....", "#....");
     T.due("mirrored", x.shape(flag, 4), Checks.grid(".####", "....#", "..###", "....#", "....#"));
@@ -918,6 +1011,9 @@ public final class PromiseTest {
       x.model(k, 3 << 2 * k);
     }
     T.due("all eight", x.toldApart(8, 0), 4);
+    x.model(0, 12 + 1);
+    T.due("A and B are near", x.toldApart(8, 0), 1);
+    x.model(0, 3);
     T.due("all eight: which", x.toldApart(8, 1), 255);
   }
 
