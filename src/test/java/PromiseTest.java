@@ -540,7 +540,8 @@ public final class PromiseTest {
     T.due("nothing is changed: ink", x.courtierIs(0, 1), 100);
     law(x, "p10(c=9&k=1);i10(1=1)");
     x.form(0, 0, 7);
-    x.form(9, 1, POST ^ 3);
+    x.form(9, 1, POST ^ 7);
+    T.due("rank now", x.courtierIs(9, 3), 1);
     T.due("rank in the end", x.tried(1, 29), 0);
     x.form(0, 0, 15);
     x.form(9, 1, 1);
