@@ -185,28 +185,19 @@ public final class CourtHand {
                 court.rankAll();
                 return court.ranks[c];
             case 4:
-                return readAsMeant(c);
+                return formsRead(c, true);
             case 5:
-                return unreadable(c);
+                return formsRead(c, false);
             default:
                 return NONE;
         }
     }
 
-    private int readAsMeant(int c) {
+    /** How many of one's forms are read as they are meant, or else how many can't be read. */
+    private int formsRead(int c, boolean asMeant) {
         int found = 0;
         for (int k = 0; k < LETTERS; k++) {
-            if (models.has(k) && models.nearest(court.formAt(c, k)) == k) {
-                found++;
-            }
-        }
-        return found;
-    }
-
-    private int unreadable(int c) {
-        int found = 0;
-        for (int k = 0; k < LETTERS; k++) {
-            if (models.has(k) && models.nearest(court.formAt(c, k)) == NOT_SO) {
+            if (models.has(k) && models.nearest(court.formAt(c, k)) == (asMeant ? k : NOT_SO)) {
                 found++;
             }
         }
