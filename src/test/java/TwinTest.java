@@ -31,9 +31,10 @@ public final class TwinTest {
     return dice.nextInt(n);
   }
 
-  /** Mostly within 0 and most, now and then one beyond. */
+  /** Mostly within 0 and most, now and then one beyond, or as far beyond as can be. */
   private int near(int most) {
-    return below(30) == 0 ? (below(2) == 0 ? -1 : most + 1) : below(most + 1);
+    int[] beyond = {-1, most + 1, -1, most + 1, Integer.MIN_VALUE, Integer.MAX_VALUE};
+    return below(30) == 0 ? beyond[below(beyond.length)] : below(most + 1);
   }
 
   private int grid() {
